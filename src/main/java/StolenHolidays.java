@@ -1608,29 +1608,27 @@ public final class StolenHolidays {
         // Of each night, one after the other: what is left of the DAYS, and how they are guarded.
         private final int[] left = new int[(LONGEST_SPREE + 1) * MOST_DAYS];
         private final int[] guard = new int[(LONGEST_SPREE + 1) * MOST_DAYS];
-        private Almanac book;
         private int skill;
         private int sack;
         private int nights;
         int most;
         int first;
 
-        void search(State state, Almanac almanac, int thief, int nightsOfAll) {
-            book = almanac;
-            skill = almanac.skills[thief];
-            sack = almanac.sacks[thief];
+        void search(State state, Almanac book, int thief, int nightsOfAll) {
+            skill = book.skills[thief];
+            sack = book.sacks[thief];
             nights = nightsOfAll;
             most = NONE;
             first = NONE;
-            for (int d = 0; d < almanac.days; d++) {
+            for (int d = 0; d < book.days; d++) {
                 left[d] = state.cells[State.LEFT + d];
                 guard[d] = state.cells[State.GUARD + d];
             }
-            go(0, 0, state.cells[State.GUILT + thief], NONE);
+            go(book, 0, 0, state.cells[State.GUILT + thief], NONE);
         }
 
-        private void go(int night, int joy, int guilt, int firstDay) {
-            if (joy + hope(night) <= most) {
+        private void go(Almanac book, int night, int joy, int guilt, int firstDay) {
+            if (joy + hope(book, night) <= most) {
                 return;
             }
             if (night >= nights || night >= LONGEST_SPREE) {
@@ -1642,16 +1640,16 @@ public final class StolenHolidays {
             for (int d = 0; d < book.days; d++) {
                 if (left[base + d] > 0 && guard[base + d] <= skill) {
                     int much = Math.min(sack, left[base + d]);
-                    passNight(base, d, much);
-                    go(night + 1, joy + Math.max(0, much - guilt), 0, night == 0 ? d : firstDay);
+                    passNight(book, base, d, much);
+                    go(book, night + 1, joy + Math.max(0, much - guilt), 0, night == 0 ? d : firstDay);
                 }
             }
-            passNight(base, NONE, 0);
-            go(night + 1, joy, guilt, firstDay);
+            passNight(book, base, NONE, 0);
+            go(book, night + 1, joy, guilt, firstDay);
         }
 
         /** What the nights to come could bring at the most, were a DAY none the worse for being stolen from. */
-        private int hope(int night) {
+        private int hope(Almanac book, int night) {
             int base = night * MOST_DAYS;
             int sum = 0;
             for (int n = 0; n < nights - night; n++) {
@@ -1666,7 +1664,7 @@ public final class StolenHolidays {
             return sum;
         }
 
-        private void passNight(int base, int robbed, int much) {
+        private void passNight(Almanac book, int base, int robbed, int much) {
             int next = base + MOST_DAYS;
             for (int d = 0; d < book.days; d++) {
                 int rest = left[base + d];

@@ -92,6 +92,23 @@ public final class MarkTest {
         Check.due("bo", x.who(), 2);
         x.mark(2, true);
         Check.due("al and cy", x.who(), 5);
+        x = Check.told(BOOK);
+        x.see(0, 30, true);
+        x.see(1, 2, true);
+        x.mark(0, false);
+        Check.readAlmanac(x, "nothing;");
+        x.mark(1, true);
+        x.steal(0, 1);
+        x.mark(2, false);
+        x.mark(0, true);
+        Check.due("who by both", x.who(), 5);
+        x.mark(2, true);
+        Check.due("sun is open to al behind two nights again", x.who(), 5);
+        x.see(1, 1, true);
+        x.mark(3, false);
+        x.mark(0, true);
+        x.mark(3, true);
+        Check.due("but not behind one", x.who(), 4);
     }
 
     private static void marksAndUndo() {
