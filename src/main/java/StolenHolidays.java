@@ -23,6 +23,7 @@ public final class StolenHolidays {
     private static final int LONGEST_WATCH = 6;
     private static final int LONGEST_YEARS = 99;
     private static final int MILLION = 1000000;
+    private static final int LOW_BITS = 2147483647;
 
     private static final int PLAIN = 0;
     private static final int SUNDAY = 1;
@@ -603,7 +604,7 @@ public final class StolenHolidays {
 
     private static int nextDraw(int g) {
         // The wrap of ints is modulo 2 ** 32, so the mask alone leaves it modulo 2 ** 31.
-        return (g * 1103515245 + 12345) & Integer.MAX_VALUE;
+        return (g * 1103515245 + 12345) & LOW_BITS;
     }
 
     /** Does in the trial what was drawn, if it can be, and answers how much was taken by it. */
@@ -843,10 +844,6 @@ public final class StolenHolidays {
         final int[] skills = new int[MOST_THIEVES];
         final int[] sacks = new int[MOST_THIEVES];
         final Law law = new Law();
-
-        Almanac() {
-            law.put(Law.MUCH);
-        }
 
         void clear() {
             days = 0;

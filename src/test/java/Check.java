@@ -1,20 +1,75 @@
+import java.io.IOException;
+import java.nio.charset.StandardCharsets;
+import java.nio.file.Files;
+import java.nio.file.Path;
+import java.util.HashSet;
 import java.util.NoSuchElementException;
+import java.util.Set;
 
 /** What the tests share: feeding texts, comparing answers, ending with 1 if one was wrong. */
 final class Check {
     static final long THROWN = Long.MIN_VALUE;
+    static final int PROMISES = 40;
+    /** The numbers that no argument can be. */
+    static final int[] WILD = {Integer.MIN_VALUE, Integer.MIN_VALUE + 1, -1000000, Integer.MAX_VALUE - 1, Integer.MAX_VALUE};
+
+    private static final String DOC = doc();
+    private static final Set<String> SENTENCES = new HashSet<>();
+    private static final boolean[] NAMED = new boolean[PROMISES + 1];
 
     private static int compared = 0;
     private static int wrong = 0;
+    private static int before = 0;
+    private static String sentence = "";
 
     private Check() {
+    }
+
+    /** Empty where the document does not lie beside the project: then quotes are not looked up. */
+    private static String doc() {
+        Path path = Path.of("..", "shared", "DOC.md");
+        try {
+            return Files.isReadable(path) ? Files.readString(path, StandardCharsets.UTF_8) : "";
+        } catch (IOException e) {
+            return "";
+        }
+    }
+
+    /** What is compared from now on is this sentence of the document, by which the promise holds. */
+    static void sentence(int promise, String words) {
+        endSentence();
+        sentence = "promise " + promise + ", \"" + words + "\": ";
+        before = compared;
+        SENTENCES.add(sentence);
+        NAMED[promise] = true;
+        if (!DOC.isEmpty() && !DOC.contains(words)) {
+            wrong++;
+            System.out.println(sentence + "these words do not stand in the document");
+        }
+    }
+
+    private static void endSentence() {
+        if (!sentence.isEmpty() && compared == before) {
+            wrong++;
+            System.out.println(sentence + "nothing was compared");
+        }
+        sentence = "";
+    }
+
+    /** Each promise has a sentence that was tested. */
+    static void allPromises() {
+        endSentence();
+        for (int promise = 1; promise <= PROMISES; promise++) {
+            due("promise " + promise + " has a sentence of its own", NAMED[promise], true);
+        }
+        System.out.println(SENTENCES.size() + " sentences");
     }
 
     static void due(String call, long got, long want) {
         compared++;
         if (got != want) {
             wrong++;
-            System.out.println(call + " answered " + got + ", due is " + want);
+            System.out.println(sentence + call + " answered " + got + ", due is " + want);
         }
     }
 
@@ -68,6 +123,7 @@ final class Check {
     }
 
     static void end() {
+        endSentence();
         System.out.println(compared + " answers, " + wrong + " wrong");
         if (wrong != 0 || compared == 0) {
             System.exit(1);

@@ -218,7 +218,7 @@ public final class CluesTest {
     }
 
     /** The same done by hand with an object of its own. */
-    private static void sameByHand(String book, int seed, int nights) {
+    static void sameByHand(String book, int seed, int nights) {
         StolenHolidays x = Check.told(book);
         StolenHolidays y = Check.told(book);
         int taken = 0;
