@@ -365,5 +365,14 @@ final class LawEdges {
             Check.due("wrong ones", x.almanac(), 1 + 16 * (i < 10 ? 6 : 7));
         }
         Check.due("it stays", x.price(0), 8);
+        x = new StolenHolidays();
+        Check.due("a law as long as can be", Check.readAlmanac(x, "pays 0" + "+1".repeat(496) + ";"), 0);
+        Check.due("another", Check.readAlmanac(x, "pays 1" + "+1".repeat(496) + ";"), 0);
+        for (int i = 0; i < 200; i++) {
+            Check.due("none", x.almanac(), 0);
+        }
+        Check.due("no law", Check.readAlmanac(x, book), 0);
+        x.steal(0, 0);
+        Check.due("much", x.price(0), 5);
     }
 }

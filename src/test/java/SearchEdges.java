@@ -285,6 +285,12 @@ final class SearchEdges {
         for (int nights = 1; nights <= 5; nights++) {
             spree("open by turns", x, 0, nights, closed[nights - 1], 0);
         }
+        // Guards are 9 at most: from 8 it is 9, by the NIGHT 8 again; from 7 it takes two nights.
+        for (int nights = 1; nights <= 5; nights++) {
+            spree("guarded by 9", HandEdges.told("wet", 24, 9, 9, 3), 0, nights, 3 * nights, 0);
+            spree("guarded by 8", HandEdges.told("wet", 24, 8, 8, 3), 0, nights, 3 * nights, 0);
+            spree("guarded by 7", HandEdges.told("wet", 24, 7, 7, 3), 0, nights, closed[nights - 1], 0);
+        }
         // 1 comes back a night.
         x = HandEdges.told("wet", 4, 0, 9, 12);
         for (int nights = 1; nights <= 5; nights++) {
