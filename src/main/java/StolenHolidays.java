@@ -630,10 +630,25 @@ public final class StolenHolidays {
         static final int NUMBER = 2;
         static final int END = 3;
 
-        private static final String SIGNS = "()<=+-*;";
+        // The keys: the numbers of the RESERVED WORDS. What is done and the KINDS stand in the order of their own numbers.
+        static final int DAY = 0;
+        static final int THIEF = 1;
+        static final int PAYS = 2;
+        static final int WORTH = 3;
+        static final int GUARD = 4;
+        static final int SKILL = 5;
+        static final int SACK = 6;
+        static final int FIRST_DOING = 7;
+        static final int FIRST_KIND = 12;
+        static final int NOT = 16;
+        static final int AND = 17;
+        static final int OR = 18;
+
         // Each with a blank behind it.
         private static final String RESERVED =
-                "day worth guard thief skill sack pays night steal sell spend swap plain sunday wet feast not and or ";
+                "day thief pays worth guard skill sack night steal sell spend swap plain sunday wet feast not and or ";
+        private static final String FACTS = "much old sort date ";
+        private static final String SIGNS = "()<=+-*;";
         private static final int LONGEST_WORD = 8;
         private static final int LONGEST_NUMBER = 4;
 
@@ -642,6 +657,9 @@ public final class StolenHolidays {
         int kind;
         int place;
         private int behind;
+        // Which of the RESERVED WORDS the token is, and which of the FACTS; NONE: none of them.
+        int key;
+        int fact;
         // The letters of a WORD as digits to the base 27: unlike WORDS have unlike ones.
         long word;
         int number;
@@ -671,85 +689,94 @@ public final class StolenHolidays {
             while (place < length && (signs[place] == 10 || signs[place] == 32)) {
                 place++;
             }
-            behind = place;
-            if (place >= length) {
-                kind = END;
-            } else if (isLetter(signs[place])) {
-                readWord();
-            } else if (isDigit(signs[place])) {
-                readNumber();
+            int letters = signsWithin('a', 'z');
+            int digits = signsWithin('0', '9');
+            if (letters > 0) {
+                readWord(letters);
+            } else if (digits > 0) {
+                readNumber(digits);
             } else {
-                behind = place + 1;
-                kind = SIGNS.indexOf((char) signs[place]) >= 0 ? signs[place] : NO_TOKEN;
+                readSign();
             }
+            boolean isWord = kind == WORD;
+            key = isWord ? numberAmong(RESERVED) : NONE;
+            fact = isWord ? numberAmong(FACTS) : NONE;
         }
 
-        private void readWord() {
+        /** How many signs from the place on are none but these. */
+        private int signsWithin(int least, int most) {
+            int end = place;
+            while (end < length && signs[end] >= least && signs[end] <= most) {
+                end++;
+            }
+            return end - place;
+        }
+
+        private void readWord(int letters) {
+            behind = place + letters;
+            if (letters > LONGEST_WORD) {
+                kind = NO_TOKEN;
+                return;
+            }
+            kind = WORD;
             word = 0;
-            while (behind < length && isLetter(signs[behind])) {
-                word = word * 27 + (signs[behind] - 'a' + 1);
-                behind++;
+            for (int i = place; i < behind; i++) {
+                word = word * 27 + (signs[i] - 'a' + 1);
             }
-            kind = behind - place <= LONGEST_WORD ? WORD : NO_TOKEN;
         }
 
-        private void readNumber() {
+        private void readNumber(int digits) {
+            behind = place + digits;
+            if (digits > LONGEST_NUMBER) {
+                kind = NO_TOKEN;
+                return;
+            }
+            kind = NUMBER;
             number = 0;
-            while (behind < length && isDigit(signs[behind])) {
-                number = number * 10 + (signs[behind] - '0');
-                behind++;
+            for (int i = place; i < behind; i++) {
+                number = number * 10 + (signs[i] - '0');
             }
-            kind = behind - place <= LONGEST_NUMBER ? NUMBER : NO_TOKEN;
         }
 
-        private static boolean isLetter(int sign) {
-            return sign >= 'a' && sign <= 'z';
+        private void readSign() {
+            if (place >= length) {
+                behind = place;
+                kind = END;
+                return;
+            }
+            behind = place + 1;
+            kind = SIGNS.indexOf((char) signs[place]) >= 0 ? signs[place] : NO_TOKEN;
         }
 
-        private static boolean isDigit(int sign) {
-            return sign >= '0' && sign <= '9';
-        }
-
-        boolean isWord(String text) {
-            return kind == WORD && spells(text, 0, text.length());
+        private int numberAmong(String words) {
+            int at = 0;
+            long other = 0;
+            for (int i = 0; i < words.length(); i++) {
+                char sign = words.charAt(i);
+                if (sign != ' ') {
+                    other = other * 27 + (sign - 'a' + 1);
+                } else if (other == word) {
+                    return at;
+                } else {
+                    at++;
+                    other = 0;
+                }
+            }
+            return NONE;
         }
 
         boolean isName() {
-            if (kind != WORD) {
-                return false;
-            }
-            int from = 0;
-            for (int i = 0; i < RESERVED.length(); i++) {
-                if (RESERVED.charAt(i) == ' ') {
-                    if (spells(RESERVED, from, i)) {
-                        return false;
-                    }
-                    from = i + 1;
-                }
-            }
-            return true;
-        }
-
-        private boolean spells(String text, int from, int to) {
-            if (to - from != behind - place) {
-                return false;
-            }
-            for (int i = 0; i < to - from; i++) {
-                if (text.charAt(from + i) != signs[place + i]) {
-                    return false;
-                }
-            }
-            return true;
+            return kind == WORD && key == NONE;
         }
     }
 
     /** What fences pay: the E of pays, its operations behind what they join. */
     private static final class Law {
-        // What is 0 or more stands for itself, a NUMBER.
+        // What is 0 or more stands for itself, a NUMBER; the facts go down in the order of Tape.FACTS.
         static final int MUCH = -1;
-        static final int OLD = -2;
-        static final int SORT = -3;
-        static final int DATE = -4;
+        private static final int OLD = -2;
+        private static final int SORT = -3;
+        private static final int DATE = -4;
         static final int NOT = -5;
         static final int AND = -6;
         static final int OR = -7;
@@ -927,6 +954,12 @@ public final class StolenHolidays {
         private static final int OUTSIDE = 4;
         private static final int TOO_MANY = 5;
         private static final int DEEPEST_PART = 5;
+        // Of what an E is joined, the widest first.
+        private static final int LEVEL_E = 0;
+        private static final int LEVEL_TEST = 1;
+        private static final int LEVEL_SUM = 2;
+        private static final int LEVEL_PART = 4;
+        private static final int NO_OPERATION = 0;
 
         private final Tape tape;
         private int fault;
@@ -943,7 +976,20 @@ public final class StolenHolidays {
             tape.rewind();
             boolean good = true;
             for (int i = 0; i < MOST_SIGNS && good && tape.kind != Tape.END; i++) {
-                good = readAlmanacLine(draft);
+                switch (tape.key) {
+                    case Tape.DAY:
+                        good = readDay(draft);
+                        break;
+                    case Tape.THIEF:
+                        good = readThief(draft);
+                        break;
+                    case Tape.PAYS:
+                        good = readPays(draft);
+                        break;
+                    default:
+                        good = refuse(WRONG);
+                        break;
+                }
             }
             tape.clear();
             return fault;
@@ -955,23 +1001,10 @@ public final class StolenHolidays {
             tape.rewind();
             boolean good = true;
             for (int i = 0; i < MOST_SIGNS && good && tape.kind != Tape.END; i++) {
-                good = readYearLine(draft, book);
+                good = readLine(draft, book);
             }
             tape.clear();
             return fault;
-        }
-
-        private boolean readAlmanacLine(Almanac draft) {
-            if (tape.isWord("day")) {
-                return readDay(draft);
-            }
-            if (tape.isWord("thief")) {
-                return readThief(draft);
-            }
-            if (tape.isWord("pays")) {
-                return readPays(draft);
-            }
-            return refuse(WRONG);
         }
 
         private boolean readDay(Almanac draft) {
@@ -985,17 +1018,17 @@ public final class StolenHolidays {
             }
             draft.dayNames[d] = tape.word;
             tape.step();
-            int kind = kindTold();
-            if (kind == NONE) {
+            int kind = tape.key - Tape.FIRST_KIND;
+            if (!isWithin(kind, PLAIN, FEAST)) {
                 return refuse(WRONG);
             }
             draft.kinds[d] = kind;
             tape.step();
-            if (!takeWord("worth") || !takeNumber(1, 24)) {
+            if (!takeNumber(Tape.WORTH, 1, 24)) {
                 return false;
             }
             draft.worths[d] = taken;
-            if (!takeWord("guard") || !takeNumber(0, TOP_GUARD)) {
+            if (!takeNumber(Tape.GUARD, 0, TOP_GUARD)) {
                 return false;
             }
             draft.guards[d] = taken;
@@ -1014,11 +1047,11 @@ public final class StolenHolidays {
             }
             draft.thiefNames[t] = tape.word;
             tape.step();
-            if (!takeWord("skill") || !takeNumber(0, 9)) {
+            if (!takeNumber(Tape.SKILL, 0, 9)) {
                 return false;
             }
             draft.skills[t] = taken;
-            if (!takeWord("sack") || !takeNumber(1, 12)) {
+            if (!takeNumber(Tape.SACK, 1, 12)) {
                 return false;
             }
             draft.sacks[t] = taken;
@@ -1033,62 +1066,55 @@ public final class StolenHolidays {
             draft.lawTold = true;
             draft.law.clear();
             tape.step();
-            return readE(draft.law, 0) && takeSign(';');
+            return readJoined(draft.law, LEVEL_E, 0) && takeSign(';');
         }
 
-        private boolean readE(Law law, int depth) {
-            boolean good = readTest(law, depth);
-            for (int i = 0; i < MOST_SIGNS && good && (tape.isWord("and") || tape.isWord("or")); i++) {
-                int operation = tape.isWord("and") ? Law.AND : Law.OR;
+        /** An E, TEST, SUM, PRODUCT or PART, by its level. The depth: how many of not and ( ) it lies within. */
+        private boolean readJoined(Law law, int level, int depth) {
+            if (level >= LEVEL_PART) {
+                return readPart(law, depth);
+            }
+            boolean good = readJoined(law, level + 1, depth);
+            int most = level == LEVEL_TEST ? 1 : MOST_SIGNS;
+            int operation = operationTold(level);
+            for (int i = 0; i < most && good && operation != NO_OPERATION; i++) {
                 tape.step();
-                good = readTest(law, depth);
+                good = readJoined(law, level + 1, depth);
                 law.put(operation);
+                operation = operationTold(level);
             }
             return good;
         }
 
-        private boolean readTest(Law law, int depth) {
-            if (!readSum(law, depth)) {
-                return false;
+        /** What the token does with the two parts of this level that it stands between. */
+        private int operationTold(int level) {
+            switch (level) {
+                case LEVEL_E:
+                    if (tape.key == Tape.AND) {
+                        return Law.AND;
+                    }
+                    return tape.key == Tape.OR ? Law.OR : NO_OPERATION;
+                case LEVEL_TEST:
+                    if (tape.kind == '<') {
+                        return Law.LESS;
+                    }
+                    return tape.kind == '=' ? Law.EQUAL : NO_OPERATION;
+                case LEVEL_SUM:
+                    if (tape.kind == '+') {
+                        return Law.PLUS;
+                    }
+                    return tape.kind == '-' ? Law.MINUS : NO_OPERATION;
+                default:
+                    return tape.kind == '*' ? Law.TIMES : NO_OPERATION;
             }
-            if (tape.kind != '<' && tape.kind != '=') {
-                return true;
-            }
-            int operation = tape.kind == '<' ? Law.LESS : Law.EQUAL;
-            tape.step();
-            boolean good = readSum(law, depth);
-            law.put(operation);
-            return good;
         }
 
-        private boolean readSum(Law law, int depth) {
-            boolean good = readProduct(law, depth);
-            for (int i = 0; i < MOST_SIGNS && good && (tape.kind == '+' || tape.kind == '-'); i++) {
-                int operation = tape.kind == '+' ? Law.PLUS : Law.MINUS;
-                tape.step();
-                good = readProduct(law, depth);
-                law.put(operation);
-            }
-            return good;
-        }
-
-        private boolean readProduct(Law law, int depth) {
-            boolean good = readPart(law, depth);
-            for (int i = 0; i < MOST_SIGNS && good && tape.kind == '*'; i++) {
-                tape.step();
-                good = readPart(law, depth);
-                law.put(Law.TIMES);
-            }
-            return good;
-        }
-
-        /** The depth: how many of not and ( ) the PART lies within. */
         private boolean readPart(Law law, int depth) {
-            boolean isNot = tape.isWord("not");
+            boolean isNot = tape.key == Tape.NOT;
             boolean isNumber = tape.kind == Tape.NUMBER;
             boolean isBracket = tape.kind == '(';
-            int fact = factTold();
-            if (!isNot && !isNumber && !isBracket && fact == 0) {
+            boolean isFact = tape.fact != NONE;
+            if (!isNot && !isNumber && !isBracket && !isFact) {
                 return refuse(WRONG);
             }
             if (depth >= DEEPEST_PART) {
@@ -1096,8 +1122,8 @@ public final class StolenHolidays {
             }
             if (isNumber) {
                 law.put(tape.number);
-            } else if (fact != 0) {
-                law.put(fact);
+            } else if (isFact) {
+                law.put(Law.MUCH - tape.fact);
             }
             tape.step();
             if (isNot) {
@@ -1105,38 +1131,12 @@ public final class StolenHolidays {
                 law.put(Law.NOT);
                 return good;
             }
-            return !isBracket || readE(law, depth + 1) && takeSign(')');
+            return !isBracket || readJoined(law, LEVEL_E, depth + 1) && takeSign(')');
         }
 
-        private int factTold() {
-            if (tape.isWord("much")) {
-                return Law.MUCH;
-            }
-            if (tape.isWord("old")) {
-                return Law.OLD;
-            }
-            if (tape.isWord("sort")) {
-                return Law.SORT;
-            }
-            return tape.isWord("date") ? Law.DATE : 0;
-        }
-
-        private int kindTold() {
-            if (tape.isWord("plain")) {
-                return PLAIN;
-            }
-            if (tape.isWord("sunday")) {
-                return SUNDAY;
-            }
-            if (tape.isWord("wet")) {
-                return WET;
-            }
-            return tape.isWord("feast") ? FEAST : NONE;
-        }
-
-        private boolean readYearLine(Year draft, Almanac book) {
-            int doing = doingTold();
-            if (doing == NONE) {
+        private boolean readLine(Year draft, Almanac book) {
+            int doing = tape.key - Tape.FIRST_DOING;
+            if (!isWithin(doing, DO_NIGHT, DO_SWAP)) {
                 return refuse(WRONG);
             }
             if (draft.lines >= MOST_LINES) {
@@ -1146,13 +1146,13 @@ public final class StolenHolidays {
             int first = NONE;
             int second = NONE;
             if (doing != DO_NIGHT) {
-                if (!takeThief(book)) {
+                if (!takeThief(book, NONE)) {
                     return false;
                 }
                 first = taken;
             }
             if (doing == DO_STEAL || doing == DO_SWAP) {
-                boolean good = doing == DO_STEAL ? takeDay(book) : takeOtherThief(book, first);
+                boolean good = doing == DO_STEAL ? takeDay(book) : takeThief(book, first);
                 if (!good) {
                     return false;
                 }
@@ -1162,23 +1162,8 @@ public final class StolenHolidays {
             return takeSign(';');
         }
 
-        private int doingTold() {
-            if (tape.isWord("night")) {
-                return DO_NIGHT;
-            }
-            if (tape.isWord("steal")) {
-                return DO_STEAL;
-            }
-            if (tape.isWord("sell")) {
-                return DO_SELL;
-            }
-            if (tape.isWord("spend")) {
-                return DO_SPEND;
-            }
-            return tape.isWord("swap") ? DO_SWAP : NONE;
-        }
-
-        private boolean takeThief(Almanac book) {
+        /** Another THIEF than the first one, where there is one. */
+        private boolean takeThief(Almanac book, int first) {
             if (!tape.isName()) {
                 return refuse(WRONG);
             }
@@ -1186,16 +1171,11 @@ public final class StolenHolidays {
             if (taken == NONE) {
                 return refuse(UNKNOWN);
             }
-            tape.step();
-            return true;
-        }
-
-        private boolean takeOtherThief(Almanac book, int first) {
-            // Only a NAME that is told can be the first one, so this never hides a lesser FAULT.
-            if (tape.isName() && book.thiefNamed(tape.word) == first) {
+            if (taken == first) {
                 return refuse(AGAIN);
             }
-            return takeThief(book);
+            tape.step();
+            return true;
         }
 
         private boolean takeDay(Almanac book) {
@@ -1218,7 +1198,12 @@ public final class StolenHolidays {
             return !told || refuse(AGAIN);
         }
 
-        private boolean takeNumber(int least, int most) {
+        /** The NUMBER behind the key. */
+        private boolean takeNumber(int key, int least, int most) {
+            if (tape.key != key) {
+                return refuse(WRONG);
+            }
+            tape.step();
             if (tape.kind != Tape.NUMBER) {
                 return refuse(WRONG);
             }
@@ -1226,14 +1211,6 @@ public final class StolenHolidays {
                 return refuse(OUTSIDE);
             }
             taken = tape.number;
-            tape.step();
-            return true;
-        }
-
-        private boolean takeWord(String word) {
-            if (!tape.isWord(word)) {
-                return refuse(WRONG);
-            }
             tape.step();
             return true;
         }
