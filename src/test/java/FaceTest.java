@@ -6,8 +6,12 @@ import java.lang.reflect.Modifier;
 import java.nio.file.Files;
 import java.nio.file.Path;
 import java.util.List;
+import java.util.Map;
 import java.util.Set;
+import java.util.TreeMap;
 import java.util.TreeSet;
+import java.util.regex.Matcher;
+import java.util.regex.Pattern;
 
 /** The public face of the document, and what of LANGUAGE.md can be seen from outside or by plain words of the source. */
 public final class FaceTest {
@@ -28,7 +32,9 @@ public final class FaceTest {
         methods();
         constantsAndConstructor();
         classesInside();
-        source(Files.readAllLines(Path.of("src", "main", "java", "StolenHolidays.java")));
+        List<String> lines = Files.readAllLines(Path.of("src", "main", "java", "StolenHolidays.java"));
+        source(lines);
+        callsGoEightDeep(bodies(lines));
         Check.end();
     }
 
@@ -112,5 +118,54 @@ public final class FaceTest {
                 from = i;
             }
         }
+    }
+
+    /** What is written in the methods, by their names: those of one name in several classes together. */
+    private static Map<String, String> bodies(List<String> lines) {
+        Pattern head = Pattern.compile("( {4}| {8})(?!return |else )(?:[\\w\\[\\]]+ )+(\\w+)\\([^;]*\\{");
+        Map<String, String> bodies = new TreeMap<>();
+        for (int i = 0; i < lines.size(); i++) {
+            Matcher matcher = head.matcher(lines.get(i));
+            if (matcher.matches()) {
+                StringBuilder body = new StringBuilder(bodies.getOrDefault(matcher.group(2), ""));
+                for (i++; !lines.get(i).equals(matcher.group(1) + "}"); i++) {
+                    body.append(lines.get(i)).append('\n');
+                }
+                bodies.put(matcher.group(2), body.toString());
+            }
+        }
+        return bodies;
+    }
+
+    private static void callsGoEightDeep(Map<String, String> bodies) {
+        Map<String, Set<String>> calls = new TreeMap<>();
+        for (Map.Entry<String, String> entry : bodies.entrySet()) {
+            Set<String> called = new TreeSet<>();
+            Matcher matcher = Pattern.compile("(\\w+)\\(").matcher(entry.getValue());
+            while (matcher.find()) {
+                if (bodies.containsKey(matcher.group(1))) {
+                    called.add(matcher.group(1));
+                }
+            }
+            calls.put(entry.getKey(), called);
+        }
+        Check.due("methods are found", calls.size() >= FACE.length && calls.get("almanac").contains("readAlmanac"), true);
+        for (String name : calls.keySet()) {
+            int deep = deepest(name, calls, new TreeSet<>());
+            Check.due("calls from " + name + " go eight deep at most, not " + deep, deep <= 8, true);
+        }
+    }
+
+    /** A method that stands open already is not counted again: that is recursion. */
+    private static int deepest(String name, Map<String, Set<String>> calls, Set<String> open) {
+        int most = 0;
+        open.add(name);
+        for (String called : calls.get(name)) {
+            if (!open.contains(called)) {
+                most = Math.max(most, deepest(called, calls, open));
+            }
+        }
+        open.remove(name);
+        return most + 1;
     }
 }
