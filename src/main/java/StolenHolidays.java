@@ -954,7 +954,7 @@ public final class StolenHolidays {
         private static final int OUTSIDE = 4;
         private static final int TOO_MANY = 5;
         private static final int DEEPEST_PART = 5;
-        // Of what an E is joined, the widest first.
+        // What an E is joined of, the widest first; between SUM and PART lies the PRODUCT.
         private static final int LEVEL_E = 0;
         private static final int LEVEL_TEST = 1;
         private static final int LEVEL_SUM = 2;
